@@ -180,7 +180,7 @@ public final class ShareBench {
             if (!isSort(sort) || beads >= MOST) {
                 return NONE;
             }
-            ahead[beads + 1] = ahead[beads] + (1 << BITS * sort);
+            ahead[beads + 1] = ahead[beads] + (1 << (BITS * sort));
             beads++;
             searched = false;
             return beads;
@@ -196,7 +196,7 @@ public final class ShareBench {
         }
 
         int countOf(int sort) {
-            return isSort(sort) ? ahead[beads] >>> BITS * sort & 0xFF : NONE;
+            return isSort(sort) ? (ahead[beads] >>> (BITS * sort)) & 0xFF : NONE;
         }
 
         int fewestCuts() {
@@ -227,7 +227,7 @@ public final class ShareBench {
             int first = 0;
             boolean toFirst = true;
             for (int k = 0; k < beads; k++) {
-                if ((cuts >>> k & 1) == 1) {
+                if (((cuts >>> k) & 1) == 1) {
                     toFirst = !toFirst;
                 }
                 if (toFirst) {
@@ -246,8 +246,8 @@ public final class ShareBench {
          * holds for both people. A spare bit above each count goes out where the count is too great.
          */
         private boolean isWithinHalf(int share) {
-            int half = ahead[beads] + ONE_EACH >>> 1 & COUNT_BITS;
-            return ((half | SPARE_BITS) - share & SPARE_BITS) == SPARE_BITS;
+            int half = ((ahead[beads] + ONE_EACH) >>> 1) & COUNT_BITS;
+            return (((half | SPARE_BITS) - share) & SPARE_BITS) == SPARE_BITS;
         }
 
         private void search() {

@@ -123,7 +123,7 @@ public final class LineTest {
         Due.is("one: envies", x.envies(0), 0);
     }
 
-    /** Person 1 says 1/2 + 3/4 .. first: 10 of 8 + 12 are behind 1 + 2/12; person 0 says 6 of 12 at 2. */
+    /** Person 1 wants 10 of 20 and says 1 + 2/12; person 0 wants 6 of 12 and says 2, which is later. */
     private static void byHand() {
         ShareBench x = bench(new int[][] {{2, 4, 6}, {8, 12, 0}});
         Due.is("by hand: who(0)", x.who(0), 1);
@@ -146,6 +146,9 @@ public final class LineTest {
         Due.is("envy: of 0", x.envies(0), 1);
         Due.is("envy: of 1", x.envies(1), 1);
         Due.is("envy: of 2", x.envies(2), 0);
+        x.stretch(2, 0, 30);
+        Due.is("envy: of 1, asked first", x.envies(1), 0);
+        Due.is("envy: of 2, now the second", x.envies(2), 1);
         x = bench(new int[][] {{1, 1}, {1, 1}, {0, 6}});
         isPlace("gap", x, 0, 2, 3);
         isPlace("gap", x, 1, 4, 3);
@@ -187,6 +190,9 @@ public final class LineTest {
         isPlace("again", x, 0, 2, 3);
         x.stretch(0, 0, 31);
         isPlace("again, refused", x, 0, 2, 3);
+        Due.is("again: who(1) of 30", x.who(1), 1);
+        x.stretch(0, 0, 2);
+        Due.is("again: who(1) as at first", x.who(1), 0);
         x.line(2);
         Due.is("again: who(0) of a new line", x.who(0), 0);
         isPlace("again, new line", x, 0, 0, 1);

@@ -187,5 +187,9 @@ public final class NecklaceTest {
         Due.is("again: 00 cut(0)", x.cut(0), 1);
         Due.is("again: 00 cut(1)", x.cut(1), -1);
         Due.is("again: 00 rows", x.rows(), 1);
+        x.bead(0);
+        Due.is("again: 000 rows, asked first", x.rows(), 2);
+        x.bead(0);
+        Due.is("again: 0000 cut(0), asked first", x.cut(0), 2);
     }
 }

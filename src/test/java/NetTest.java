@@ -44,6 +44,11 @@ public final class NetTest {
         Due.is("marked(1, 1)", x.marked(1, 1), 2);
         x.net(3);
         Due.is("marked(1, 1) anew", x.marked(1, 1), 0);
+        x.mark(2, 0, 2);
+        x.mark(0, 2, 2);
+        x.net(2);
+        Due.is("marked(2, 0), a corner now", x.marked(2, 0), 0);
+        Due.is("marked(0, 2), a corner now", x.marked(0, 2), 1);
     }
 
     private static void marking() {

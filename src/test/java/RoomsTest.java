@@ -167,6 +167,12 @@ public final class RoomsTest {
         x.people(2);
         Due.is("people forget", x.check(), 0);
         Due.is("people forget a grudge", x.grudge(0, 1), 0);
+        x.rent(70);
+        Due.is("check, asked first behind rent", x.check(), 0);
+        x.room(0, 1, 60);
+        Due.is("check, asked first behind room", x.check(), 0);
+        x.room(1, 1, 90);
+        Due.is("grudge, asked first behind room", x.grudge(0, 1), 0);
     }
 
     private static int[][] worthsByChance(int n, int bound) {
