@@ -1,4 +1,4 @@
-/** Any calls with any numbers, 512 to an object: none may throw, and the same calls give the same answers. */
+/** Any calls with any numbers, some behind the 512th too: none may throw, and the same calls answer the same. */
 public final class AnyCallsTest {
     private static final int[] FAR = {Integer.MIN_VALUE, Integer.MAX_VALUE, -1, 5, 20, 21, 24, 30, 31, 1000, 10000,
         100000, -100000, 1 << 23, (1 << 24) - 2};
@@ -7,7 +7,7 @@ public final class AnyCallsTest {
         for (int turn = 0; turn < 200; turn++) {
             ShareBench one = new ShareBench();
             ShareBench other = new ShareBench();
-            for (int call = 0; call < 512; call++) {
+            for (int call = 0; call < 600; call++) {
                 int which = Due.pick(30);
                 int a = number(which);
                 int b = number(which);
