@@ -65,8 +65,6 @@ final class Bench {
     /** Five beads, a net of 3 with a walk that went out, three people, rents with something more, four stretches. */
     static ShareBench busy() {
         ShareBench x = housed(100, new int[][] {{40, 70, 10}, {35, 80, 20}, {50, 60, 5}});
-        x.turned(0, 7);
-        x.turned(2, -3);
         x.line(4);
         int[][] worths = {{3, 0, 5, 2}, {1, 7, 0, 4}, {6, 6, 1, 9}};
         for (int p = 0; p < 3; p++) {
@@ -81,6 +79,8 @@ final class Bench {
         for (int sort : new int[] {0, 0, 1, 1, 2}) {
             x.bead(sort);
         }
+        x.turned(0, 7);
+        x.turned(2, -3);
         return x;
     }
 

@@ -201,10 +201,11 @@ final class LineEdges {
         isWorth("the longest, what went does not come back", x, 0, 1, 0, 1);
         isWorth("the longest, what went does not come back", x, 1, 1, 0, 1);
         // Rooms are no stretches.
-        x = Bench.busy();
-        x.line(30);
-        Due.is("rooms are as they were: best()", x.best(), Bench.busy().best());
-        Due.is("rents are as they were: check()", x.check(), Bench.busy().check());
+        x.room(1, 0, 7);
+        x.turned(0, 3);
+        Due.is("line(30) again", x.line(30), true);
+        Due.is("the room's worth stays: best()", x.best(), 7);
+        Due.is("what is more stays: check()", x.check(), 1);
     }
 
     @Sentence(of = "Promise 26", says = "false for others")

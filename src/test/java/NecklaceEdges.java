@@ -145,6 +145,8 @@ final class NecklaceEdges {
         isFirstRow("00111", 1, 3);
         // The rows are (1, 4, 7) and (2, 4, 6): the first numbers go ahead of the last ones.
         isFirstRow("00011202", 1, 4, 7);
+        // The rows are (1, 2, 4), (2, 3, 4) and (2, 4, 5): cuts may be next to one another.
+        isFirstRow("011220", 1, 2, 4);
     }
 
     @Sentence(of = "Promise 2", says = "A BEAD more: how many")
@@ -153,6 +155,11 @@ final class NecklaceEdges {
             ShareBench x = alike(sort, 24);
             Due.is("count(" + sort + ") of 24", x.count(sort), 24);
             Due.is("count(another) of 24", x.count(3 - sort), 0);
+        }
+        ShareBench x = new ShareBench();
+        for (int k = 1; k <= 24; k++) {
+            Due.is("bead " + k, x.bead(3), k);
+            Due.is("cut(0) of " + k + ", asked each time", x.cut(0), k < 2 ? -1 : k / 2);
         }
     }
 
@@ -188,7 +195,7 @@ final class NecklaceEdges {
         Due.is("beads(3)", x.beads(3), true);
         Due.is("three stay: count(0)", x.count(0), 2);
         Due.is("three stay: count(1)", x.count(1), 1);
-        Due.is("three stay: least()", x.least(), 1);
+        Due.is("three stay, asked again: least()", x.least(), 1);
         Due.is("beads(0)", x.beads(0), true);
         Due.is("none stays: count(0)", x.count(0), 0);
         Due.is("none stays: least()", x.least(), -1);
@@ -298,6 +305,7 @@ final class NecklaceEdges {
         Due.is("00: rows()", Bench.strung("00").rows(), 1);
         Due.is("000: rows()", Bench.strung("000").rows(), 2);
         Due.is("000111: rows()", Bench.strung("000111").rows(), 4);
+        Due.is("011220: rows()", Bench.strung("011220").rows(), 3);
         Due.is("four blocks: rows()", Bench.strung("000000111111222222333333").rows(), 1);
         // Each of four blocks of an odd count may be cut at either side of its middle bead.
         Due.is("four odd blocks: rows()", Bench.strung("00000111112222233333").rows(), 16);

@@ -214,6 +214,14 @@ final class NetEdges {
         Due.is("the greatest: marked(2, 0)", x.marked(2, 0), 0);
         Due.is("the greatest: marked(0, 2)", x.marked(0, 2), 1);
         Due.is("the greatest: all()", x.all(), 1);
+        x.mark(5, 5, 2);
+        x.mark(0, 10, 2);
+        x.mark(19, 1, 1);
+        Due.is("the least again: net(1)", x.net(1), true);
+        Due.is("the greatest again: net(20)", x.net(MOST), true);
+        Due.is("what went does not come back: marked(5, 5)", x.marked(5, 5), 0);
+        Due.is("what went does not come back: marked(0, 10)", x.marked(0, 10), 1);
+        Due.is("what went does not come back: marked(19, 1)", x.marked(19, 1), 0);
     }
 
     @Sentence(of = "Promise 9", says = "false for others")

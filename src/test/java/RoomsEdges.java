@@ -11,6 +11,11 @@ final class RoomsEdges {
         return Bench.housed(100, new int[][] {{80, 60}, {90, 30}});
     }
 
+    /** The rents are 5, -10 and 5; the second would take room 0 if it cost 1 less. */
+    private static ShareBench three() {
+        return Bench.housed(0, new int[][] {{1000, 0, 0}, {10, 5, 0}, {0, 0, 1000}});
+    }
+
     private static ShareBench people(int n) {
         ShareBench x = new ShareBench();
         Due.is("people(" + n + ")", x.people(n), true);
@@ -270,6 +275,11 @@ final class RoomsEdges {
         Due.is("five: best()", x.best(), 0);
         x.room(2, 3, 1);
         Due.is("a single worth: best()", x.best(), 1);
+        x.room(2, 3, 0);
+        for (int p = 0; p < MOST; p++) {
+            x.room(p, MOST - 1 - p, 2);
+        }
+        Due.is("by the last of all sharings: best()", x.best(), 10);
         for (int at = 0; at < MOST * MOST; at++) {
             x.room(at / MOST, at % MOST, 1000);
         }
@@ -309,6 +319,7 @@ final class RoomsEdges {
         x = people(MOST);
         x.rent(7);
         arePrices("five times as great", x, 7, 7, 7, 7, 7);
+        arePrices("below 0", Bench.housed(10, new int[][] {{40, 10}, {100, 20}}), 40, -20);
     }
 
     @Sentence(of = "Promise 22", says = "Long.MIN_VALUE: no such ROOM")
@@ -497,6 +508,11 @@ final class RoomsEdges {
         x.turned(3, 1);
         x.turned(4, -1);
         Due.is("all like the last room better: check()", x.check(), 2);
+        x = three();
+        x.turned(0, -1);
+        x.turned(2, 1);
+        Due.is("the least grudge that there can be: grudge(1, 0)", x.grudge(1, 0), 1);
+        Due.is("the least grudge that there can be: check()", x.check(), 2);
     }
 
     @Sentence(of = "Promise 25", says = "3 the greatest one could be less")
@@ -519,7 +535,7 @@ final class RoomsEdges {
         x.turned(1, 0);
         Due.is("the sum goes ahead: check()", x.check(), 1);
         // One of the two greatest goes down, the other one up.
-        x = Bench.housed(0, new int[][] {{1000, 0, 0}, {10, 5, 0}, {0, 0, 1000}});
+        x = three();
         arePrices("two greatest ones", x, 5, -10, 5);
         x.turned(0, -1);
         x.turned(1, -1);
