@@ -32,26 +32,48 @@ public final class FaceTest {
             if (!Modifier.isPrivate(method.getModifiers())) {
                 got.add(told(method));
                 names.add(method.getName());
+                Due.is(method + " is public and nothing else", method.getModifiers(), Modifier.PUBLIC);
+                Due.is(method + " says that it throws", method.getExceptionTypes().length, 0);
             }
         }
         Due.is("the face is " + got + ", it", got.equals(want), true);
-        Due.is("final", Modifier.isFinal(ShareBench.class.getModifiers()), true);
+        Due.is("the class is public and final", ShareBench.class.getModifiers(), Modifier.PUBLIC | Modifier.FINAL);
+        noMethodHidesTheFace(ShareBench.class, names);
+        classesInside(names);
+        fields();
+        for (Constructor<?> made : ShareBench.class.getDeclaredConstructors()) {
+            Due.is(made + " parameters", made.getParameterCount(), 0);
+            Due.is(made + " is public", made.getModifiers(), Modifier.PUBLIC);
+        }
+        Due.is("NONE", ShareBench.NONE, -1);
+    }
+
+    private static void noMethodHidesTheFace(Class<?> type, Set<String> names) {
+        for (Method method : type.getDeclaredMethods()) {
+            boolean isOfTheFace = type == ShareBench.class && Modifier.isPublic(method.getModifiers());
+            Due.is(method + " bears a name of the face", !isOfTheFace && names.contains(method.getName()), false);
+        }
+    }
+
+    private static void classesInside(Set<String> names) {
         for (Class<?> inside : ShareBench.class.getDeclaredClasses()) {
             Due.is(inside + " static", Modifier.isStatic(inside.getModifiers()), true);
             Due.is(inside + " hidden", !Modifier.isPublic(inside.getModifiers())
                 && !Modifier.isProtected(inside.getModifiers()), true);
-            for (Method method : inside.getDeclaredMethods()) {
-                Due.is(inside + " has a method " + method.getName() + " of the face",
-                    names.contains(method.getName()), false);
+            noMethodHidesTheFace(inside, names);
+        }
+    }
+
+    private static void fields() {
+        for (Field field : ShareBench.class.getDeclaredFields()) {
+            boolean isNone = field.getName().equals("NONE");
+            Due.is(field + " private", Modifier.isPrivate(field.getModifiers()), !isNone);
+            if (isNone) {
+                Due.is(field + " is public static final", field.getModifiers(),
+                    Modifier.PUBLIC | Modifier.STATIC | Modifier.FINAL);
+                Due.is(field + " of type", field.getType().getName(), "int");
             }
         }
-        for (Field field : ShareBench.class.getDeclaredFields()) {
-            Due.is(field + " private", Modifier.isPrivate(field.getModifiers()), !field.getName().equals("NONE"));
-        }
-        for (Constructor<?> made : ShareBench.class.getDeclaredConstructors()) {
-            Due.is(made + " parameters", made.getParameterCount(), 0);
-        }
-        Due.is("NONE", ShareBench.NONE, -1);
     }
 
     private static String told(Method method) {

@@ -2,6 +2,8 @@ import java.io.IOException;
 import java.lang.reflect.Field;
 import java.lang.reflect.Method;
 import java.lang.reflect.Modifier;
+import java.net.URISyntaxException;
+import java.nio.file.DirectoryStream;
 import java.nio.file.Files;
 import java.nio.file.Path;
 import java.util.ArrayList;
@@ -20,19 +22,22 @@ public final class LanguageTest {
     private static final Set<String> FIXED_TYPES = Set.of("int", "long", "boolean", "char", "java.lang.String", "[I",
         "[J", "[C", "[B");
 
-    public static void main(String[] args) throws IOException {
+    public static void main(String[] args) throws IOException, URISyntaxException {
         String code = withoutComments(Files.readString(SOURCE));
         for (String word : new String[] {"package", "throw", "throws", "try", "catch", "synchronized", "assert",
             "volatile", "native", "hashCode", "toString", "protected"}) {
             hasNot(code, "\\b" + word + "\\b");
         }
         for (String form : new String[] {"->", "::", "Exact\\b", "static\\s*\\{", "\\[\\]\\s*\\[\\]\\s*\\[\\]",
-            "System\\.(?!arraycopy)", "Arrays\\.(?!(fill|copyOf|copyOfRange)\\()", "Math\\.random"}) {
+            "System\\.(?!arraycopy)", "Arrays\\.(?!(fill|copyOf|copyOfRange)\\()", "Math\\.random",
+            "while\\s*\\(\\s*true", "for\\s*\\([^;)]*;\\s*;", "\"\\s*\\+", "\\+\\s*\""}) {
             hasNot(code, form);
         }
         imports(code);
         library(code);
         methodsAreShort(code);
+        madeInConstructors(code);
+        noHiddenClasses();
         for (Class<?> type : classes()) {
             fields(type);
             parameters(type);
@@ -90,6 +95,32 @@ public final class LanguageTest {
                     end++;
                 }
                 Due.is(lines[k].trim() + " of " + (end - k) + " lines, at most sixty", end - k < 60, true);
+            }
+        }
+    }
+
+    /** Rule 12 wants few objects, and README.md says that no call makes one: new stands in constructors alone. */
+    private static void madeInConstructors(String code) {
+        Pattern first = Pattern.compile(
+            "(?: {4}| {8})(?!if |for |while |switch )(?:public |private |static )*(\\w.*)\\(.*\\) \\{");
+        String within = "";
+        for (String line : code.split("\n")) {
+            Matcher begin = first.matcher(line);
+            within = begin.matches() ? begin.group(1) : within;
+            if (Pattern.compile("\\bnew\\b").matcher(line).find()) {
+                Due.is(line.trim() + " stands in a constructor, in " + within, isOwn(within), true);
+            }
+        }
+    }
+
+    /** Local, anonymous and deeper classes have files of their own beside those of the classes that are seen. */
+    private static void noHiddenClasses() throws IOException, URISyntaxException {
+        Path home = Path.of(ShareBench.class.getProtectionDomain().getCodeSource().getLocation().toURI());
+        try (DirectoryStream<Path> files = Files.newDirectoryStream(home, "ShareBench$*.class")) {
+            for (Path file : files) {
+                String name = file.getFileName().toString();
+                Due.is(name + " is of a class that is seen",
+                    isOwn(name.substring("ShareBench$".length(), name.length() - ".class".length())), true);
             }
         }
     }
